@@ -75,7 +75,7 @@ public final class GridDuals {
         if (!isCrossing(a) || !isCrossing(b)) {
             return -1;
         }
-        int both = 1 << a | 1 << b;
+        int both = (1 << a) | (1 << b);
         for (int street = 0; street < STREETS; street++) {
             if (ends(street) == both) {
                 return street;
@@ -194,14 +194,14 @@ public final class GridDuals {
     private static int ends(int street) {
         if (street < ROW_STREETS) {
             int left = 4 * (street / 3) + street % 3;
-            return 1 << left | 1 << left + 1;
+            return (1 << left) | (1 << (left + 1));
         }
         int upper = street - ROW_STREETS;
-        return 1 << upper | 1 << upper + 4;
+        return (1 << upper) | (1 << (upper + 4));
     }
 
     private static boolean contains(int crossings, int k) {
-        return (crossings & 1 << k) != 0;
+        return (crossings & (1 << k)) != 0;
     }
 
     private static boolean crosses(int street, int cut) {
