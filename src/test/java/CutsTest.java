@@ -79,7 +79,7 @@ public final class CutsTest {
             for (int cut : new int[] {2049, 2051, 3073, 4093, 4095}) {
                 Due.is("weight(" + cut + ")", x.weight(cut), -3);
             }
-            Due.is("weight(2047) is no refusal", x.weight(2047) >= 0 ? 1 : 0, 1);
+            Due.holds("weight(2047) is no refusal", x.weight(2047) >= 0);
         }
     }
 

@@ -20,6 +20,13 @@ final class Due {
         }
     }
 
+    static void holds(String what, boolean truth) {
+        if (!truth) {
+            wrong++;
+            System.out.println(sentence + "does not hold: " + what);
+        }
+    }
+
     static void end() {
         if (sentences > 0) {
             System.out.println(sentences + " sentences tested");

@@ -14,15 +14,15 @@ public final class FaceTest {
 
     public static void main(String[] args) {
         Class<?> c = GridDuals.class;
-        truth("public and final", Modifier.isPublic(c.getModifiers()) && Modifier.isFinal(c.getModifiers()));
+        Due.holds("public and final", Modifier.isPublic(c.getModifiers()) && Modifier.isFinal(c.getModifiers()));
         methods(c);
         for (Field f : c.getDeclaredFields()) {
-            truth("field " + f.getName() + " is private", Modifier.isPrivate(f.getModifiers()));
+            Due.holds("field " + f.getName() + " is private", Modifier.isPrivate(f.getModifiers()));
         }
         Constructor<?>[] made = c.getDeclaredConstructors();
-        truth("one public constructor without parameters", made.length == 1
+        Due.holds("one public constructor without parameters", made.length == 1
             && Modifier.isPublic(made[0].getModifiers()) && made[0].getParameterCount() == 0);
-        truth("no nested class", c.getDeclaredClasses().length == 0);
+        Due.holds("no nested class", c.getDeclaredClasses().length == 0);
         Due.end();
     }
 
@@ -33,14 +33,10 @@ public final class FaceTest {
                 continue;
             }
             seen.add(m.getName() + "/" + m.getParameterCount());
-            truth(m + " is public, of the object, over int", Modifier.isPublic(m.getModifiers())
+            Due.holds(m + " is public, of the object, over int", Modifier.isPublic(m.getModifiers())
                 && !Modifier.isStatic(m.getModifiers()) && m.getReturnType() == int.class
                 && Arrays.stream(m.getParameterTypes()).allMatch(t -> t == int.class));
         }
-        truth("methods " + seen, seen.equals(FACE));
-    }
-
-    private static void truth(String what, boolean holds) {
-        Due.is(what, holds ? 1 : 0, 1);
+        Due.holds("methods " + seen, seen.equals(FACE));
     }
 }

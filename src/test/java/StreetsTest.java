@@ -56,8 +56,8 @@ public final class StreetsTest {
             for (int bad : Bad.STREETS) {
                 Due.is("loss(" + bad + ")", x.loss(bad), -1);
             }
-            Due.is("loss(0) is no refusal", x.loss(0) >= 0 ? 1 : 0, 1);
-            Due.is("loss(16) is no refusal", x.loss(16) >= 0 ? 1 : 0, 1);
+            Due.holds("loss(0) is no refusal", x.loss(0) >= 0);
+            Due.holds("loss(16) is no refusal", x.loss(16) >= 0);
         }
     }
 
