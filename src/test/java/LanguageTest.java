@@ -48,7 +48,9 @@ public final class LanguageTest {
         Tree.Kind.MINUS, Tree.Kind.MULTIPLY, Tree.Kind.DIVIDE, Tree.Kind.REMAINDER, Tree.Kind.LEFT_SHIFT,
         Tree.Kind.AND, Tree.Kind.OR, Tree.Kind.LESS_THAN, Tree.Kind.LESS_THAN_EQUAL, Tree.Kind.GREATER_THAN,
         Tree.Kind.GREATER_THAN_EQUAL, Tree.Kind.EQUAL_TO, Tree.Kind.NOT_EQUAL_TO, Tree.Kind.CONDITIONAL_AND,
-        Tree.Kind.CONDITIONAL_OR);
+        Tree.Kind.CONDITIONAL_OR, Tree.Kind.BOOLEAN_LITERAL, Tree.Kind.LONG_LITERAL, Tree.Kind.MINUS_ASSIGNMENT,
+        Tree.Kind.POSTFIX_DECREMENT, Tree.Kind.XOR, Tree.Kind.BITWISE_COMPLEMENT, Tree.Kind.RIGHT_SHIFT,
+        Tree.Kind.UNSIGNED_RIGHT_SHIFT, Tree.Kind.BREAK, Tree.Kind.CONTINUE);
     private static final Set<String> NUMBER_TYPES = Set.of("int", "long", "short", "byte", "char", "boolean");
     private static final Set<String> ARRAY_TYPES =
         Set.of("int[]", "long[]", "short[]", "byte[]", "char[]", "boolean[]");
